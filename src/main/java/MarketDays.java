@@ -512,7 +512,7 @@ public final class MarketDays {
         return d > 0 ? d - 1 : days - 1;
     }
 
-    /** All that an IMAGE keeps: TOWNS and what they want, ROADS, the WEEK, FEASTS, which TEXT is THE RULE. */
+    /** TOWNS, ROADS, the WEEK, FEASTS and which TEXT is THE RULE: an IMAGE keeps all but SIZES, which never change. */
     private static final class Land {
         final int[] sizes = new int[MOST_TOWNS];
         final int[] allowed = new int[MOST_TOWNS];
@@ -585,7 +585,6 @@ public final class MarketDays {
         /** Serves keeping an IMAGE and going back to it: TOWNS that the other has not stay, cut off from its own. */
         void become(Land other) {
             for (int a = 0; a < other.towns; a++) {
-                sizes[a] = other.sizes[a];
                 allowed[a] = other.allowed[a];
                 wishes[a] = other.wishes[a];
                 leaders[a] = other.leaders[a];
@@ -911,7 +910,7 @@ public final class MarketDays {
 
     /** The TEXTS, and what THE RULE says of the land. */
     private static final class Law {
-        private static final int MOST_WORTH = 999;
+        static final int MOST_WORTH = 999;
 
         private final Land land;
         private final Rule[] texts = new Rule[MOST_TEXTS];
@@ -1172,7 +1171,7 @@ public final class MarketDays {
         private final Land land;
         private final Law law;
         private int days = FIRST_WEEK;
-        /** By the number of each TOWN: the TOWNS near to it as bits. */
+        /** By the number of each TOWN: the lesser TOWNS near to it, as bits. */
         private final int[] near = new int[MOST_TOWNS];
         /** The TOWNS that take part, in their order. */
         private final int[] part = new int[MOST_TOWNS];
@@ -1194,7 +1193,6 @@ public final class MarketDays {
             for (int a = 0; a < land.towns; a++) {
                 for (int b = a + 1; b < land.towns; b++) {
                     if (law.nearSays(a, b, days) != 0) {
-                        near[a] |= 1 << b;
                         near[b] |= 1 << a;
                     }
                 }
@@ -1320,27 +1318,23 @@ public final class MarketDays {
 
         long seek(int aim, Giving giving) {
             foundTowns = 0;
-            if (aim == AIM_BEST) {
-                weigh();
-            }
+            int goal = aim == AIM_BEST ? weigh() : 0;
             ways.suppose(land.days);
             ways.begin(ALL);
-            if (!ways.next()) {
-                return NO + 1;
-            }
-            keepWay();
-            if (aim == AIM_FIRST) {
-                return 1;
-            }
-            int best = score(aim, giving);
-            for (int i = 0; i < MOST_WAYS && ways.next(); i++) {
+            boolean any = false;
+            int best = 0;
+            for (int i = 0; i < MOST_WAYS && (!any || best < goal) && ways.next(); i++) {
                 int score = score(aim, giving);
-                if (score > best) {
+                if (!any || score > best) {
+                    any = true;
                     best = score;
                     keepWay();
                 }
             }
-            return aim == AIM_BEST ? best : -best;
+            if (!any) {
+                return NO + 1;
+            }
+            return aim == AIM_FIRST ? 1 : aim == AIM_BEST ? best : -best;
         }
 
         private void keepWay() {
@@ -1351,7 +1345,7 @@ public final class MarketDays {
         }
 
         private int score(int aim, Giving giving) {
-            return aim == AIM_BEST ? worthOfWay() : -otherNumbers(giving);
+            return aim == AIM_BEST ? worthOfWay() : aim == AIM_NEAREST ? -otherNumbers(giving) : 0;
         }
 
         private int otherNumbers(Giving giving) {
@@ -1379,26 +1373,36 @@ public final class MarketDays {
             return sum;
         }
 
-        /** A way's worth is asked for up to 7 to the 6th ways, THE RULE only for what can differ in them. */
-        private void weigh() {
+        /**
+         * Asks THE RULE for all that can differ between ways, as there are up to 7 to the 6th of them.
+         * Answers what no way can be worth more than.
+         */
+        private int weigh() {
+            int goal = 0;
             for (int t = 0; t < land.towns; t++) {
                 for (int set = 0; set < 1 << land.towns; set++) {
                     nearest[t << MOST_TOWNS | set] = nearestOf(t, set);
                 }
+                int most = -Law.MOST_WORTH;
                 for (int d = 0; d < land.days; d++) {
                     for (int others = 0; others < land.towns; others++) {
-                        weighDay(t, d, others);
+                        most = Math.max(most, weighDay(t, d, others));
                     }
                 }
+                goal += most;
             }
+            return goal;
         }
 
-        private void weighDay(int t, int d, int others) {
-            for (int other = 0; other < land.towns; other++) {
-                worths[worthPlace(t, d, others, other)] =
-                    law.worthOfDay(t, d, land.hoursBetween(t, other), others);
+        private int weighDay(int t, int d, int others) {
+            int most = law.worthOfDay(t, d, FAR, others);
+            worths[worthPlace(t, d, others, MOST_TOWNS)] = most;
+            for (int near = 0; near < land.towns; near++) {
+                int worth = law.worthOfDay(t, d, land.hoursBetween(t, near), others);
+                worths[worthPlace(t, d, others, near)] = worth;
+                most = Math.max(most, worth);
             }
-            worths[worthPlace(t, d, others, MOST_TOWNS)] = law.worthOfDay(t, d, FAR, others);
+            return most;
         }
 
         private static int worthPlace(int t, int d, int others, int near) {

@@ -103,6 +103,28 @@ public final class FoundTest {
         Make.rule(two, "near 0;worth -hours*size;");
         check.due("find(2, 0), hours of the DAY ahead", two.find(2, 0), -99 - 15);
         days(two, 0, 1);
+        findBestOfMany();
+    }
+
+    private static void findBestOfMany() {
+        MarketDays x = Make.towns(1, 2, 3, 4, 5, 6);
+        x.week(7);
+        Make.rule(x, "near 0;worth size*10-day-other*30;");
+        check.due("find(2, 0), six TOWNS in a WEEK of 7", x.find(2, 0), 210 - 15);
+        days(x, 0, 1, 2, 3, 4, 5);
+        Make.rule(x, "near 0;worth size*day;");
+        check.due("find(2, 0), all on the last DAY", x.find(2, 0), 6 * 21);
+        days(x, 6, 6, 6, 6, 6, 6);
+        x.want(0, 0, 1);
+        x.want(1, 0, 1);
+        x.want(2, 0, 1);
+        x.road(5, 0, 40);
+        x.road(5, 1, 20);
+        x.road(5, 2, 30);
+        Make.rule(x, "near 0;worth (size=6)*(hours+other*30);");
+        x.want(5, 0, 2);
+        check.due("find(2, 0), the nearest of three, others with it", x.find(2, 0), 20 + 60);
+        days(x, 0, 0, 0, 1, 1, 1);
     }
 
     private static void findNearest() {
@@ -216,6 +238,10 @@ public final class FoundTest {
         check.due("knot(), no more", x.knot(), 0);
         x.want(3, 0, 2);
         check.due("knot(), fewest ahead of least bits", x.knot(), 24);
+        MarketDays three = Make.towns(1, 2, 3);
+        three.week(2);
+        Make.rule(three, "near 1;worth 1;");
+        check.due("knot(), all TOWNS", three.knot(), 7);
     }
 
     private static void room() {

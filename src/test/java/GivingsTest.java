@@ -38,6 +38,7 @@ public final class GivingsTest {
         Make.row(x, 0, 0, 1, 6);
         check.due("giving(0, 0), BAD ahead of FULL", x.giving(0, 0), -2);
         check.due("count(3)", x.count(3), 12);
+        check.due("marketOf(12, 0, 0)", x.marketOf(12, 0, 0), -5);
         Make.row(x, 2, 2, 0, 0);
         check.due("marketOf(11, 0, 0), the SHEET is copied", x.marketOf(11, 0, 0), 32);
     }

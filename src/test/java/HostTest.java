@@ -174,6 +174,7 @@ public final class HostTest {
             check.due("taken(1, " + kind + ")", x.taken(1, kind), -13);
         }
         check.due("taken(2, 6)", x.taken(2, 6), -11);
+        check.due("taken(5, 6)", x.taken(5, 6), -11);
         check.due("taken(2, 0), -11 ahead of -13", x.taken(2, 0), -11);
         check.due("taken(12, 0)", x.taken(12, 0), -11);
         check.due("taken(17, 6)", x.taken(17, 6), -11);
@@ -181,6 +182,12 @@ public final class HostTest {
         check.due("taken(-1, 0)", x.taken(-1, 0), -12);
         check.due("taken(18, 7), BAD ahead of -12", x.taken(18, 7), -2);
         check.due("taken(0, -1)", x.taken(0, -1), -2);
+        check.due("taken(5, 6), the last TOWN", Make.towns(1, 2, 3, 4, 5, 9).taken(5, 6), 9);
+        MarketDays full = Make.towns(1);
+        for (int g = 0; g < 12; g++) {
+            Make.giving(full, 0, 0);
+        }
+        check.due("taken(17, 0), the last GIVING", full.taken(17, 0), 11);
     }
 
     /** No call may throw, whatever it is called with. */

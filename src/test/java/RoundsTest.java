@@ -11,6 +11,7 @@ public final class RoundsTest {
         count();
         image();
         back();
+        backToSix();
         check.end();
     }
 
@@ -145,7 +146,8 @@ public final class RoundsTest {
         check.due("walk, STRIDE -1", x.walk(0, 0, 0, -1, 0), -2);
         check.due("walk, too few", walk(x, 0, 2, 0, 0, 0), -2);
         check.due("walk, too many", walk(x, 0, 2, 0, 0, 0, 0, 0), -2);
-        check.due("walk, no TOWN", walk(x, 0, 2, 3, 0, 0, 4), -2);
+        check.due("walk, no TOWN at last", walk(x, 0, 2, 3, 0, 0, 4), -2);
+        check.due("walk, no TOWN at first", walk(x, 0, 2, 4, 0, 0, 0), -2);
         check.due("walk, no TOWN", walk(x, 0, 2, 0, -1, 0, 0), -2);
         check.due("walk, STRIDE 50", walk(x, 0, 50, 0, 0, 0, 0), 3);
     }
@@ -221,6 +223,20 @@ public final class RoundsTest {
         check.due("back(), again", x.back(), 5);
         check.due("count(1)", x.count(1), 6);
         check.due("hours(0, 1)", x.hours(0, 1), 5);
+    }
+
+    private static void backToSix() {
+        MarketDays x = Make.towns(1, 2, 3, 4, 5, 6);
+        x.road(4, 5, 8);
+        x.want(5, 1, 2);
+        x.image();
+        x.road(4, 5, 9);
+        x.road(0, 5, 9);
+        x.want(5, 1, 3);
+        check.due("back()", x.back(), 6);
+        check.due("hours(4, 5), as it was", x.hours(4, 5), 8);
+        check.due("hours(0, 5), as it was", x.hours(0, 5), 99);
+        check.due("townTold(5, 2), as it was", x.townTold(5, 2), 2);
     }
 
     private static void afterBack(MarketDays x, int g) {

@@ -117,6 +117,14 @@ public final class RulesTest {
     private static void faultsOfWords() {
         fault("near hour;", 5);
         fault("near hourss;", 5);
+        fault("near tours;", 5);
+        fault("near homrs;", 5);
+        fault("fear 1;", 0);
+        fault("near 1;north 1;", 7);
+        fault("near 1 ar 2;", 7);
+        fault("near 1 end 2;", 7);
+        fault("near got 2;", 5);
+        fault("near wise;", 5);
         fault("near sizes < 1;", 5);
         fault("near a;", 5);
         fault("nearhours;", 0);
