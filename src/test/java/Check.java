@@ -26,6 +26,16 @@ final class Check {
         due(what, is ? 1 : 0, 1);
     }
 
+    /** No difference may be told. */
+    void alike(String call, String difference) {
+        if (difference.isEmpty()) {
+            right++;
+        } else {
+            wrong++;
+            System.out.println(name + ", " + about + ": " + call + ": " + difference);
+        }
+    }
+
     void end() {
         System.out.println(name + ": " + right + " answers as due, " + wrong + " not");
         if (wrong != 0 || right == 0) {
