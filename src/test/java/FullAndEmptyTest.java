@@ -27,6 +27,7 @@ public final class FullAndEmptyTest {
         imageOfSix();
         imageAgain();
         imageOfTheRule();
+        calls();
         check.end();
     }
 
@@ -678,5 +679,21 @@ public final class FullAndEmptyTest {
         x.back();
         check.due("count(5), TEXT 0 again", x.count(5), 0);
         check.due("worthOf(0, 0, 0, 0)", x.worthOf(0, 0, 0, 0), 10);
+    }
+
+    private static void calls() {
+        check.promise(1, "at most 512 calls after it has been made: the last one is answered as the first ones");
+        MarketDays x = Scene.full();
+        for (int i = 0; i < 40; i++) {
+            check.due("week(" + (2 + i % 6) + ")", x.week(2 + i % 6), i == 0 ? 7 : 6);
+            check.due("back()", x.back(), 6);
+            check.due("count(1)", x.count(1), 6);
+            check.due("count(5)", x.count(5), 0);
+            check.due("can(), three TOWNS all NEAR, a fourth to one of them", x.can(), 6 * 5 * 4 * 5 * 6 * 6);
+            check.due("town(1)", x.town(1), -4);
+            check.due("feed(0, 8)", x.feed(0, 8), -4);
+            check.due("text()", x.text(), -4);
+            check.due("giving(0, 0)", x.giving(0, 3), -11);
+        }
     }
 }

@@ -13,6 +13,7 @@ public final class RoundTheWeekTest {
         dayAhead();
         bestOfTwo();
         found();
+        wishes();
         check.end();
     }
 
@@ -248,6 +249,27 @@ public final class RoundTheWeekTest {
                     int last = Integer.numberOfTrailingZeros(may);
                     check.due("least() of " + may, x.least(), may == 0 ? -1 : Math.max(2, last + 1));
                 }
+            }
+        }
+    }
+
+    /** A WISH can be a DAY that the WEEK hasn't: it is told, but no DAY is its WISH. */
+    private static void wishes() {
+        check.promise(13, "want: 1, if it is its WISH, else 0");
+        for (int n = 2; n <= 7; n++) {
+            for (int wish = -1; wish < 7; wish++) {
+                MarketDays x = towns(n, 1);
+                x.want(0, 1, wish);
+                for (int d = 0; d < n; d++) {
+                    int due = d == wish ? 15 : 10;
+                    check.due("worthOf(0, " + d + ", 0, 0), WISH " + wish, x.worthOf(0, d, 0, 0), due);
+                    int g = Make.giving(x, 5, d);
+                    check.due("judge of DAY " + d + ", WISH " + wish, x.judge(g, 0, 0), due + 1);
+                }
+                check.due("worthOf(0, " + n + ", 0, 0), no DAY", x.worthOf(0, n, 0, 0), MarketDays.NO);
+                boolean isThere = wish >= 0 && wish < n;
+                check.due("find(2, 0), WISH " + wish, x.find(2, 0), isThere ? 15 : 10);
+                check.due("foundDay(0), WISH " + wish, x.foundDay(0), isThere ? wish : 0);
             }
         }
     }
