@@ -30,7 +30,10 @@ final class Scene {
         x.town(20);
         x.road(2, 3, 5);
         x.road(0, 3, 6);
+        x.want(0, 1, 3);
+        x.want(3, 0, 95);
         x.want(3, 1, 4);
+        x.want(3, 2, 1);
         x.week(5);
         x.feast(2, 4);
         Make.rule(x, LAW);
